@@ -360,7 +360,7 @@ public final class RedSky {
         chosen.clear();
         calendar.addYears(years, chosen);
         learner.aimAt(reading.secondKnown, reading.secondTrue, chosen);
-        for (int k = 0; k < said; k++) {
+        for (int k = 0; k < said && k < SAYINGS; k++) {
             reading.readFirst(sayings[k], diary, calendar, scales);
             learner.hear(k, reading.season, reading.firstTrue);
         }
@@ -529,7 +529,7 @@ public final class RedSky {
         for (int i = 0; i < page.length; i++) {
             h = mixed(h, page.letterAt(i));
         }
-        for (int k = 0; k < said; k++) {
+        for (int k = 0; k < said && k < SAYINGS; k++) {
             for (int what = 0; what < ANSWERS; what++) {
                 h = mixed(h, sayings[k].answer(what));
             }
@@ -943,7 +943,7 @@ public final class RedSky {
         /** The DAYS on which a FIELD is a number less than this (order -1), equal (0), greater (1). */
         void findCompared(int f, int order, int number, Days out) {
             out.clear();
-            if (!isField(f)) {
+            if (f < 0 || f >= FIELDS) {
                 return;
             }
             int shift = SHIFTS[f], mask = MASKS[f], place = number - LOWEST[f] + 1;
@@ -1151,7 +1151,7 @@ public final class RedSky {
         /** Puts into the draft what only the end of the letters tells. */
         void finish() {
             if (state == FACTOR_READ) {
-                endCondition();
+                condition.depth = endLevel();
             } else if (state == MONTH_TO) {
                 draft.toMonth = value;
             }
@@ -1192,6 +1192,10 @@ public final class RedSky {
             state = FACTOR;
         }
 
+        private int level() {
+            return open >= 0 && open <= LETTERS ? open : 0;
+        }
+
         private boolean openLevel(int level) {
             if (level < 0 || level > LETTERS) {
                 return false;
@@ -1210,7 +1214,7 @@ public final class RedSky {
                 return openLevel(open + 1);
             }
             if (c == '!') {
-                nots[open]++;
+                nots[level()]++;
                 return true;
             }
             field = FIELD_LETTERS.indexOf((char) c);
@@ -1247,36 +1251,35 @@ public final class RedSky {
         }
 
         private void endFactor(int depth) {
-            if (nots[open] % 2 == 1) {
+            int i = level();
+            if (nots[i] % 2 == 1) {
                 condition.addStep(Condition.NOT);
             }
-            if (factors[open] > 0) {
+            if (factors[i] > 0) {
                 condition.addStep(Condition.AND);
             }
-            factors[open]++;
-            deepestFactor[open] = Math.max(deepestFactor[open], depth + nots[open]);
-            nots[open] = 0;
+            factors[i]++;
+            deepestFactor[i] = Math.max(deepestFactor[i], depth + nots[i]);
+            nots[i] = 0;
         }
 
         private void endTerm() {
-            if (terms[open] > 0) {
+            int i = level();
+            if (terms[i] > 0) {
                 condition.addStep(Condition.OR);
             }
-            terms[open]++;
-            int depth = factors[open] > 1 ? deepestFactor[open] + 1 : deepestFactor[open];
-            deepestTerm[open] = Math.max(deepestTerm[open], depth);
-            factors[open] = 0;
-            deepestFactor[open] = 0;
+            terms[i]++;
+            int depth = factors[i] > 1 ? deepestFactor[i] + 1 : deepestFactor[i];
+            deepestTerm[i] = Math.max(deepestTerm[i], depth);
+            factors[i] = 0;
+            deepestFactor[i] = 0;
         }
 
         /** Ends the CONDITION that is open: how deep it is. */
         private int endLevel() {
             endTerm();
-            return terms[open] > 1 ? deepestTerm[open] + 1 : deepestTerm[open];
-        }
-
-        private void endCondition() {
-            condition.depth = endLevel();
+            int i = level();
+            return terms[i] > 1 ? deepestTerm[i] + 1 : deepestTerm[i];
         }
 
         private boolean goesOn(int c) {
@@ -1302,12 +1305,12 @@ public final class RedSky {
         }
 
         private boolean endsFirst() {
-            endCondition();
+            condition.depth = endLevel();
             return goesTo(SPAN);
         }
 
         private boolean endsSecond() {
-            endCondition();
+            condition.depth = endLevel();
             value = 0;
             digits = 0;
             return goesTo(SEASON);

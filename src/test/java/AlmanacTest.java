@@ -71,6 +71,10 @@ public final class AlmanacTest {
         CHECK.due("another YEAR stays", x.foretell(0, start - 1, 0), 0);
         // the last DAY of the long YEAR is the 366th, a 3rd one too
         CHECK.due("the last DAY", x.foretell(0, 1460, 1), 0);
+        x.foretell(4, 365, 1);
+        x.foretell(0, 365, 0);
+        CHECK.due("a YEAR of nothing", x.copy(0, 4, 0, 1), 0);
+        CHECK.due("the DAY behind stays", x.foretell(0, 365, 0), 0);
         CHECK.due("the model stays", x.foretell(4, start + 2, 1), 1);
         CHECK.due("each one the other way round", x.copy(1, 4, 3, 1), 10);
         CHECK.due("turned", x.foretell(1, start, 1), 0);
@@ -187,6 +191,10 @@ public final class AlmanacTest {
         CHECK.due("not of greater AGE", x.source(1, 0, 10), RedSky.NONE);
         CHECK.due("not alike by more", x.source(3, 0, 27), RedSky.NONE);
         CHECK.due("alike by less", x.source(3, 0, 26), 1);
+        CHECK.due("alike by 1", x.source(3, 0, 1), 1);
+        CHECK.due("alike by 1", x.spring(3, 0, 1), 1);
+        CHECK.due("by 100", x.source(3, 0, 100), RedSky.NONE);
+        CHECK.due("by 100", x.spring(3, 0, 100), 3);
         foretell(x, 0, 0, "11100000");
         CHECK.due("of like ones the least", x.source(3, 0, 10), 0);
         x.age(0, 5);

@@ -7,6 +7,10 @@ public final class ListTest {
         lastWords();
         oneEntry();
         twoEntriesInOrder();
+        firstSayingFirst();
+        lastWordOfAll();
+        eighthSaying();
+        forgottenDoNotTell();
         likeLists();
         halfIsNo();
         openFirstDoesNotTell();
@@ -96,6 +100,59 @@ public final class ListTest {
         entriesAre(x, 2, 1);
         listIs(x, 0, 2, 13, 13, 0, 0);
         CHECK.due("size 1", x.learn(0, 0, 1, 15), 9);
+        entriesAre(x);
+    }
+
+    private static void firstSayingFirst() {
+        RedSky x = new RedSky();
+        Check.say(x, "W=1:0~R>0");
+        Check.say(x, "S>0:0~R>0");
+        int n = 0;
+        for (int i = 0; i < 4; i++) {
+            keep(x, n++, 1, 0, 1);
+            keep(x, n++, 0, 0, 0);
+            keep(x, n++, 1, 1, 0);
+        }
+        CHECK.due("size 2", x.learn(0, 1, 2, 15), 12);
+        entriesAre(x, 0, 3);
+    }
+
+    private static void lastWordOfAll() {
+        RedSky x = new RedSky();
+        Check.say(x, "W=1:0~R>0");
+        Check.say(x, "S=1:0~R>0");
+        keep(x, 0, 0, 1, 1);
+        keep(x, 1, 0, 1, 1);
+        keep(x, 400, 1, 0, 1);
+        keep(x, 401, 1, 0, 0);
+        CHECK.due("no entry makes it better", x.learn(0, 0, 2, 1), 2);
+        entriesAre(x);
+        listIs(x, 1, 0, 2, 2, 2, 1);
+    }
+
+    private static void eighthSaying() {
+        RedSky x = new RedSky();
+        for (int k = 0; k < 7; k++) {
+            Check.say(x, "S=3:0~R>0");
+        }
+        Check.say(x, "W=1:0~R>0");
+        keep(x, 0, 0, 1, 1);
+        keep(x, 1, 0, 0, 0);
+        CHECK.due("the last one", x.learn(0, 0, 2, 15), 2);
+        entriesAre(x, 15);
+    }
+
+    private static void forgottenDoNotTell() {
+        RedSky x = new RedSky();
+        Check.say(x, "S=3:0~R>0");
+        Check.say(x, "W=1:0~R>0");
+        keep(x, 0, 0, 1, 1);
+        keep(x, 1, 0, 0, 0);
+        CHECK.due("both", x.learn(0, 0, 2, 15), 2);
+        entriesAre(x, 3);
+        x.forget();
+        Check.say(x, "S=3:0~R>0");
+        CHECK.due("the one that is left", x.learn(0, 0, 2, 15), 1);
         entriesAre(x);
     }
 

@@ -176,6 +176,8 @@ public final class WorthTest {
         CHECK.due("another VALLEY", x.worth(0, 2), 0);
         keep(x, 1, 0, "10", "01", "01");
         CHECK.due("a worth below 0", x.worth(0, 1), -666);
+        keep(x, 2, 500, "11");
+        CHECK.due("one DAY that counts", x.expected(0, 2), 1000);
     }
 
     private static void turnedYears() {

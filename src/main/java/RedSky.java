@@ -633,7 +633,10 @@ public final class RedSky {
         return best;
     }
 
-    /** A set of DAYS, a bit each: truths are such sets, so that 64 DAYS are asked at once. Bits behind the last DAY stay 0. */
+    /**
+     * A set of DAYS, a bit each: truths are such sets, so that 64 DAYS are asked at once. Bits behind the
+     * last DAY stay 0.
+     */
     private static final class Days {
         private static final int WORDS = 23;
         private static final long LAST_WORD = (1L << (DAYS & 63)) - 1L;
@@ -863,7 +866,10 @@ public final class RedSky {
         }
     }
 
-    /** The DIARY of a VALLEY: the four FIELDS of a DAY share one number, each as its place above the lowest, from 1; 0 is a gap. */
+    /**
+     * The DIARY of a VALLEY: to save room, the four FIELDS of a DAY share one number, each as its place
+     * above the lowest, from 1; 0 is a gap.
+     */
     private static final class Diary {
         static final int[] LOWEST = {0, 0, 0, -30};
         static final int[] HIGHEST = {3, 9, 99, 40};

@@ -23,6 +23,7 @@ public final class ListEdgesTest {
         seasons();
         judgedAsItWas();
         latestList();
+        learnedAnew();
         twelveTimes();
         refusedIsNotDone();
         entriesBeyond();
@@ -177,9 +178,9 @@ public final class ListEdgesTest {
     private static void firstEntryTells() {
         Run r = twoWanted("the first ENTRY that is TRUE tells, the others do not");
         // on DAYS of the other YEARS both are TRUE: the first, YES, tells
-        keep(r, 365, "0111", "0101", "0100", "0000");
+        keep(r, 365, "0111", "0111", "0101", "0100", "0000");
         r.due("learn(0, 0, 2, 1)", 9);
-        listIs(r, 1, 2, 9, 9, 4, 2).eachDue("entry(?)", 5, 2, NONE);
+        listIs(r, 1, 2, 9, 9, 5, 3).eachDue("entry(?)", 5, 2, NONE);
     }
 
     private static void openDaysOfTheTarget() {
@@ -212,14 +213,14 @@ public final class ListEdgesTest {
 
     private static void judgedAsItWas() {
         Run r = keep(run("told as it was when it was LEARNED"), 0, "-11-", "-11-", "-00-");
-        keep(r, 365, "-11-", "-10-").due("learn(0, 0, 2, 1)", 3);
-        listIs(r, 0, 1, 3, 3, 2, 1).eachDue("entry(?)", 3, NONE);
+        keep(r, 365, "-11-", "-11-", "-10-").due("learn(0, 0, 2, 1)", 3);
+        listIs(r, 0, 1, 3, 3, 3, 2).eachDue("entry(?)", 3, NONE);
         keep(r, 365, "-00-", "-00-", "-00-");
-        listIs(r, 0, 1, 3, 3, 2, 1);
+        listIs(r, 0, 1, 3, 3, 3, 2);
         r.go("write(0, 0, 1, 0)", "forget()");
-        listIs(r, 0, 1, 3, 3, 2, 1).eachDue("entry(?)", 3, NONE);
+        listIs(r, 0, 1, 3, 3, 3, 2).eachDue("entry(?)", 3, NONE);
         r.go("first(3)");
-        listIs(r, 0, 1, 3, 3, 2, 1).eachDue("entry(?)", 3, NONE).due("count(3)", 1);
+        listIs(r, 0, 1, 3, 3, 3, 2).eachDue("entry(?)", 3, NONE).due("count(3)", 1);
     }
 
     private static void latestList() {
@@ -229,6 +230,22 @@ public final class ListEdgesTest {
         r.due("learn(0, 0, 1, 1)", 7).eachDue("entry(?)", 2, NONE);
         r.due("learn(1, 0, 2, 15)", 0);
         listIs(r, 0, 0, 0, 0, 0, 0).eachDue("entry(?)", NONE, NONE);
+    }
+
+    private static void learnedAnew() {
+        Run r = new Run(CHECK, "nothing of the LIST ahead is left").say("W=1:0~R>0@#2", "S=1:0~R>0@2-3").go("saint(2, 1, 1, 0, 0)");
+        keep(r, 0, "011-", "110-", "010-", "000-");
+        keep(r, 365, "011-", "110-", "011-");
+        r.due("learn(0, 0, 2, 1)", 4);
+        listIs(r, 0, 1, 4, 4, 3, 2).eachDue("entry(?)", 1, NONE);
+        // on the SAINT's DAY THE FIRST is FALSE now, and YEAR 1 is a gap
+        keep(r, 365, "01--", "11--", "01--");
+        r.go("saint(2, 1, 4, 0, 0)").due("learn(0, 0, 2, 1)", 3);
+        listIs(r, 0, 0, 4, 3, 0, 0).eachDue("entry(?)", NONE, NONE);
+        keep(r, 0, "01--").due("learn(0, 0, 2, 3)", 3);
+        listIs(r, 0, 0, 3, 3, 0, 0);
+        r.due("learn(0, 1, 2, 2)", 0);
+        listIs(r, 0, 0, 0, 0, 3, 3);
     }
 
     private static void twelveTimes() {

@@ -11,6 +11,7 @@ public final class SayingEdgesTest {
         shortestAndLongest();
         notASaying();
         pageStaysAndGoesOn();
+        readAnew();
         eightSayings();
         numbers();
         fieldsAndSigns();
@@ -138,6 +139,32 @@ public final class SayingEdgesTest {
         Run s = run("a refusal touches no SAYING").say("S=1:0~R>0").go("set(0, 0, 0, 1, true)", "set(0, 0, 2, 4, true)");
         s.none("!S=1&W<2:3^T>0@#", 16).due("truth(0, 0, 0, 0)", 1).due("truth(0, 0, 0, 1)", 1);
         s.eachDue("asks(0, ?)", 1, 4, 0, 0, 0, -1, -1, -1, 1, 1, 1, 1);
+    }
+
+    private static void readAnew() {
+        String[] ahead = {"!!!T>77&W=3|S=", "!(!(S=1|W=2&!!R=3", "((((!!S=1&!", "S=9|S=9|S=9&S=9&S=9:7-9^!!!!T=9&T=9|S", "!!!!",
+            "W=444:5-6~(T=555|!R=666)@11-1", "T<888:5-6^!(!S=3)@#6", "S=2:3~W=1:", "!!!", "!!!S=1&W=2&", "S=1&!!W=2|!"};
+        for (String text : ahead) {
+            Run r = run("what was read ahead leaves nothing behind").page(text).go("say()", "forget()");
+            r.page("S=2|!W=1:1~T=3&R=4").due("say()", 0);
+            r.eachDue("asks(0, ?)", 3, 12, 1, 1, 0, -1, -1, -1, 2, 2, 3, 2).due("count(0)", 1);
+            r.go("set(0, 0, 0, 2, true)", "set(0, 0, 1, 1, true)", "set(0, 1, 2, 4, true)", "set(0, 1, 3, 3, true)");
+            r.due("truth(0, 0, 0, 0)", 1).due("truth(0, 0, 0, 1)", 1).due("truth(0, 0, 0, 2)", 1);
+            r.go("set(0, 0, 0, 1, true)").due("truth(0, 0, 0, 0)", 0).go("set(0, 0, 1, 0, true)").due("truth(0, 0, 0, 0)", 1);
+            r.go("set(0, 1, 2, 5, true)").due("truth(0, 0, 0, 1)", 0);
+        }
+        Run all = run("nor what was forgotten");
+        for (int i = 0; i < 8; i++) {
+            all.say("!!(T=" + i + "|W=9):1-9^!R=5@#" + i);
+        }
+        all.go("forget()");
+        for (int k = 0; k < 8; k++) {
+            all.say("S=" + k % 4 + ":0~R>0").eachDue("asks(" + k + ", ?)", 1, 4, 0, 0, 0, -1, -1, -1, 1, 1, 1, 1);
+        }
+        all.go("set(0, 0, 0, 3, true)", "set(0, 0, 2, 5, true)");
+        for (int k = 0; k < 8; k++) {
+            all.due("truth(" + k + ", 0, 0, 0)", k % 4 == 3 ? 1 : 0).due("truth(" + k + ", 0, 0, 1)", 1);
+        }
     }
 
     private static void eightSayings() {

@@ -1,3 +1,5 @@
+import java.util.function.IntPredicate;
+
 /** The boundary cases of promises 17 to 26, each sentence a run of its own. */
 public final class WorthEdgesTest {
     private static final Check CHECK = new Check("WorthEdgesTest");
@@ -6,10 +8,13 @@ public final class WorthEdgesTest {
     public static void main(String[] args) {
         comparisonsAtTheirNumber();
         termsAndFactors();
+        nots();
+        brackets();
         openFirst();
         openSecond();
         spanOnSomeOrAll();
         spanAtTheLastDay();
+        spanFromEachDay();
         seasonOfMonths();
         seasonOverTheEnd();
         seasonInTheLongYear();
@@ -95,6 +100,47 @@ public final class WorthEdgesTest {
         }
     }
 
+    private static void nots() {
+        Run r = run("each ! turns it over").go("set(0, 0, 0, 1, true)", "set(0, 1, 0, 0, true)");
+        for (int i = 0; i < 8; i++) {
+            r.say("!".repeat(i) + "S=1:0~" + "!(".repeat(i) + "S=1" + ")".repeat(i));
+            for (int n = 0; n < 2; n++) {
+                int is = (i + n) % 2 == 0 ? 1 : 0;
+                r.due("truth(" + i + ", 0, " + n + ", 0)", is).due("truth(" + i + ", 0, " + n + ", 1)", is);
+            }
+        }
+    }
+
+    /** A CONDITION in both parts, on all 16 DAYS of FIELDS that are 0 or 1. */
+    private static void holds(String text, IntPredicate due) {
+        Run r = run(text).say(text + ":0~" + text);
+        for (int n = 0; n < 16; n++) {
+            for (int f = 0; f < 4; f++) {
+                r.go("set(0, " + n + ", " + f + ", " + (n >> f & 1) + ", true)");
+            }
+            r.due("truth(0, 0, " + n + ", 0)", due.test(n) ? 1 : 0).due("truth(0, 0, " + n + ", 1)", due.test(n) ? 1 : 0);
+        }
+    }
+
+    private static void brackets() {
+        IntPredicate s = n -> (n & 1) == 1, w = n -> (n & 2) == 2, r = n -> (n & 4) == 4, t = n -> (n & 8) == 8;
+        holds("S=1&(W=1)", s.and(w));
+        holds("S=1|(W=1)", s.or(w));
+        holds("(S=1)&(W=1)|(R=1)", s.and(w).or(r));
+        holds("S=1|W=1&R=1", s.or(w.and(r)));
+        holds("S=1&W=1|R=1&T=1", s.and(w).or(r.and(t)));
+        holds("S=1&(W=1|R=1)&T=1", s.and(w.or(r)).and(t));
+        holds("(S=1|W=1)&(R=1|T=1)", s.or(w).and(r.or(t)));
+        holds("S=1|(W=1&(R=1|T=1))", s.or(w.and(r.or(t))));
+        holds("!(S=1|W=1)&R=1", s.or(w).negate().and(r));
+        holds("!S=1|W=1", s.negate().or(w));
+        holds("!S=1&W=1|T=1", s.negate().and(w).or(t));
+        holds("!(S=1&!(W=1|!R=1))|T=1", s.and(w.or(r.negate()).negate()).negate().or(t));
+        holds("S=1&!!(W=1|R=1)", s.and(w.or(r)));
+        holds("!!!(S=1|W=1&R=1)", s.or(w.and(r)).negate());
+        holds("((S=1|W=1)|R=1)&T=1", s.or(w).or(r).and(t));
+    }
+
     private static void openFirst() {
         Run r = run("THE FIRST is OPEN, if some FIELD of it is a gap, whatever the others tell");
         r.say("S=1|W=1:0~R>0", "S=1&W=1:0~R>0", "!(S=9|W=9):0~R>0", "S=1:0~R>0");
@@ -166,6 +212,60 @@ public final class WorthEdgesTest {
         Run first = run("the first DAY is there").say("R=0:0~R>0", "R=0:1~R>0").go("set(0, 0, 2, 0, true)", "set(0, 1, 2, 1, true)");
         truths(first, 0, 0, 1, 0, 1);
         truths(first, 1, 0, 1, 1, 1);
+    }
+
+    /** R of YEAR y as WRITING by this SEED tells it. */
+    private static int[] rainWritten(int y, long seed) {
+        int[] rain = new int[y == 3 ? 366 : 365];
+        long x = seed;
+        for (int i = 0; i < rain.length; i++) {
+            for (int f = 0; f < 4; f++) {
+                x = (x * 1103515245L + 12345L) % 2147483648L;
+                if (f == 2) {
+                    long z = x / 65536;
+                    rain[i] = (int) (z % 3 == 0 ? 0 : z % 100);
+                }
+            }
+        }
+        return rain;
+    }
+
+    private static void spanFromEachDay() {
+        int[] rain = new int[1461];
+        for (int y = 0; y < 4; y++) {
+            System.arraycopy(rainWritten(y, 7 + y), 0, rain, 365 * y, y == 3 ? 366 : 365);
+        }
+        for (int from = 0; from <= 9; from++) {
+            for (int to = from; to <= 9; to += 3) {
+                Run r = run("the SPAN of each DAY").go("write(0, 0, 7, 0)", "write(0, 1, 8, 0)", "write(0, 2, 9, 0)", "write(0, 3, 10, 0)");
+                r.say("R>49:" + from + "-" + to + "~R>49", "R>49:" + from + "-" + to + "^R>9");
+                int[] counted = new int[4], cases = new int[4], some = new int[4], all = new int[4];
+                for (int n = 0; n + to < 1461; n++) {
+                    int y = Math.min(n / 365, 3), over = 0, above = 0;
+                    for (int i = from; i <= to; i++) {
+                        over += rain[n + i] > 49 ? 1 : 0;
+                        above += rain[n + i] > 9 ? 1 : 0;
+                    }
+                    counted[y]++;
+                    cases[y] += rain[n] > 49 ? 1 : 0;
+                    some[y] += rain[n] > 49 && over > 0 ? 1 : 0;
+                    all[y] += rain[n] > 49 && above == to - from + 1 ? 1 : 0;
+                }
+                for (int y = 0; y < 4; y++) {
+                    String years = "0, " + y + ", " + y + ", ";
+                    r.due("cases(0, " + years + "0)", counted[y]).due("cases(0, " + years + "1)", cases[y]);
+                    r.due("cases(0, " + years + "2)", some[y]).due("cases(1, " + years + "2)", all[y]);
+                }
+            }
+        }
+        for (int n = 50; n < 140; n++) {
+            Run r = run("the DAY of the rain alone").say("R=0:1~R>0", "R=0:9~R>0").go("write(0, 0, 0, 1)");
+            for (int i = n; i < n + 12; i++) {
+                r.go("set(0, " + i + ", 2, " + (i == n + 10 ? 1 : 0) + ", true)");
+            }
+            r.due("truth(0, 0, " + (n + 9) + ", 1)", 1).due("truth(0, 0, " + (n + 8) + ", 1)", 0);
+            r.due("truth(1, 0, " + (n + 1) + ", 1)", 1).due("truth(1, 0, " + n + ", 1)", 0).due("truth(1, 0, " + (n + 2) + ", 1)", 0);
+        }
     }
 
     private static void inMonths(String season, int y, boolean... is) {

@@ -102,30 +102,37 @@ public final class CalendarTest {
     }
 
     private static void dates() {
-        RedSky x = new RedSky();
         int[] lengths = {31, 28, 31, 30, 31, 30, 31, 31, 30, 31, 30, 31};
         for (int f = 0; f < 4; f++) {
-            x.first(f);
             int n = 0;
             for (int y = 0; y < 4; y++) {
                 for (int m = 1; m <= 12; m++) {
                     int length = lengths[m - 1] + (m == 2 && (f + y) % 4 == 0 ? 1 : 0);
-                    for (int d = 1; d <= length; d++) {
-                        CHECK.due("day", x.day(y, m, d), n);
-                        CHECK.due("date 0 of " + n, x.date(n, 0), y);
-                        CHECK.due("date 1 of " + n, x.date(n, 1), m);
-                        CHECK.due("date 2 of " + n, x.date(n, 2), d);
-                        n++;
-                    }
+                    n = datesOfMonth(f, y, m, length, n);
                 }
             }
             CHECK.due("DAYS", n, 1461);
         }
+        RedSky x = new RedSky();
         CHECK.due("date(-1, 0)", x.date(-1, 0), RedSky.UNKNOWN);
         CHECK.due("date(1461, 0)", x.date(1461, 0), RedSky.UNKNOWN);
         CHECK.due("date(1461, 9)", x.date(1461, 9), RedSky.UNKNOWN);
         CHECK.due("date(0, 3)", x.date(0, 3), RedSky.OUTSIDE);
         CHECK.due("date(0, -1)", x.date(0, -1), RedSky.OUTSIDE);
+    }
+
+    /** A new object each MONTH, since one is used for 512 calls at most: the DAY behind the MONTH. */
+    private static int datesOfMonth(int f, int y, int m, int length, int start) {
+        RedSky x = new RedSky();
+        x.first(f);
+        for (int d = 1; d <= length; d++) {
+            int n = start + d - 1;
+            CHECK.due("day", x.day(y, m, d), n);
+            CHECK.due("date 0 of " + n, x.date(n, 0), y);
+            CHECK.due("date 1 of " + n, x.date(n, 1), m);
+            CHECK.due("date 2 of " + n, x.date(n, 2), d);
+        }
+        return start + length;
     }
 
     private static void saints() {

@@ -224,6 +224,8 @@ public final class SayingEdgesTest {
         run("no SPAN of more, or of none").none("S=1:~R>0", 4).none("S=1:-1~R>0", 4).none("S=1:10~R>0", 5).none("S=1:00~R>0", 5)
             .none("S=1:1-~R>0", 6).none("S=1:1--2~R>0", 6).none("S=1:1-10~R>0", 7).none("S=1:1-22~R>0", 7)
             .none("S=1:1-2-3~R>0", 7).none("S=1:1R>0", 5).none("S=1:1-2R>0", 7).none("S=1:1~^R>0", 6).none("S=1:1:1~R>0", 5);
+        run("no third part").none("S=1:0~R>0:1~W=1", 9).none("S=1:0~R>0~W=1", 9).none("S=1:0~(R>0:1~W=1)", 10)
+            .none("S=1:0~R>0@1-2:1~W=1", 13).none("S=1:0~R>0@#1:1~W=1", 12);
     }
 
     private static void monthsOfASeason() {

@@ -28,6 +28,8 @@ public final class WorthEdgesTest {
         worthBelowAndAbove();
         turnedModuloFour();
         turnedToADateThatIsNotThere();
+        turnedBesideTheLeapDay();
+        turnedCountsCasesAlone();
         turnedSpanBeginsThere();
         turnedSeasonAndFirstStay();
         chanceNotBelow();
@@ -464,6 +466,39 @@ public final class WorthEdgesTest {
                 r.eachDue("turned(0, 0, " + t + ", ?)", 2, 2);
             }
         }
+    }
+
+    private static void turnedBesideTheLeapDay() {
+        for (int f = 0; f < 4; f++) {
+            int longYear = (4 - f) % 4;
+            for (int t = 1; t < 4; t++) {
+                Run r = run("3/1 is turned to 3/1, not to 2/29").say("W=1:0~R>0").go("first(" + f + ")");
+                long here = r.ask("day(" + (longYear + 4 - t) % 4 + ", 3, 1)"), there = r.ask("day(" + longYear + ", 3, 1)");
+                keep(r, 0, here, "1-");
+                keep(r, 0, there - 1, "-1", "--").eachDue("turned(0, 0, " + t + ", ?)", 0, 0);
+                keep(r, 0, there - 1, "-1", "-0").eachDue("turned(0, 0, " + t + ", ?)", 0, 1);
+                keep(r, 0, there - 1, "-0", "-1").eachDue("turned(0, 0, " + t + ", ?)", 1, 1);
+                keep(r, 0, there - 1, "--", "-1").eachDue("turned(0, 0, " + t + ", ?)", 1, 1);
+            }
+        }
+    }
+
+    private static void turnedCountsCasesAlone() {
+        Run r = run("DAYS that COUNT, but on which THE FIRST is FALSE, are no CASES").say("W=1:0~R>0");
+        keep(r, 0, 150, "10", "01", "00", "11");
+        keep(r, 0, 515, "-1", "-1", "-0", "-0");
+        r.eachDue("turned(0, 0, 1, ?)", 1, 2);
+        // 1 of 2 in both, though of the DAYS that COUNT it would be 1 of 4 and 1 of 3
+        r.due("chance(0, 0)", 3);
+        keep(r, 0, 152, "00", "11", "01", "01", "01");
+        keep(r, 0, 517, "--", "-0");
+        r.eachDue("turned(0, 0, 1, ?)", 1, 2).due("chance(0, 0)", 3);
+        keep(r, 0, 153, "01", "11");
+        keep(r, 0, 518, "-0", "-0");
+        r.eachDue("turned(0, 0, 1, ?)", 1, 2).due("chance(0, 0)", 3);
+        // now 2 of 3, turned 1 of 2 of which more DAYS COUNT not
+        keep(r, 0, 155, "11");
+        r.eachDue("turned(0, 0, 1, ?)", 1, 2).due("chance(0, 0)", 2);
     }
 
     private static void turnedSpanBeginsThere() {

@@ -11,6 +11,8 @@ public final class ToldEdgesTest {
         digestOfAFullObject();
         digestOfWhatIsNotTold();
         digestAfterFirst();
+        lastOfTheCalls();
+        objectsApart();
         CHECK.end();
     }
 
@@ -167,5 +169,22 @@ public final class ToldEdgesTest {
     private static void digestAfterFirst() {
         Run r = run("gaps are not told").go("write(0, 0, 1, 0)", "write(2, 3, 1, 0)", "draw(0, 0, 1)", "draw(5, 3, 1)", "first(1)");
         r.due("digest()", tail(head(1), 0)).go("write(0, 0, 1, 1)").due("digest()", tail(head(1), 0));
+    }
+
+    private static void lastOfTheCalls() {
+        Run r = run("the 512th call").say("S=1:0~R>0").go("write(0, 0, 1, 5)");
+        long before = r.ask("digest()");
+        for (int calls = 7; calls < 511; calls++) {
+            r.go(calls % 2 == 0 ? "home(0)" : "set(0, 1460, 3, 41, true)");
+        }
+        r.due("digest()", before);
+    }
+
+    private static void objectsApart() {
+        Run one = run("two objects have nothing in common"), other = run("two objects have nothing in common");
+        one.say("S=1:0~R>0").type("S=").go("first(3)", "saint(0, 2, 3, 1, 4)", "write(0, 0, 1, 0)", "draw(0, 0, 1)", "age(0, 9)", "learn(0, 0, 0, 1)");
+        long before = one.ask("digest()");
+        other.due("digest()", tail(head(1), 0)).eachDue("list(?)", -1, -1, -1).say("T=1:9~W>0").go("first(2)", "age(0, 3)", "write(0, 0, 5, 0)");
+        one.due("digest()", before);
     }
 }

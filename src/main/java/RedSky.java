@@ -170,7 +170,7 @@ public final class RedSky {
         if (page.readLetters() < page.length || !page.isWhole()) {
             return STATE;
         }
-        if (said >= SAYINGS) {
+        if (!within(said, 0, SAYINGS - 1)) {
             return FULL;
         }
         page.finish();
@@ -996,7 +996,7 @@ public final class RedSky {
         }
 
         void addStep(int step) {
-            if (length < LETTERS) {
+            if (length >= 0 && length < LETTERS) {
                 steps[length] = (byte) step;
                 numbers[length] = 0;
                 length++;
@@ -1126,7 +1126,7 @@ public final class RedSky {
         }
 
         void append(long w, int many) {
-            for (int i = 0; i < many && length < LETTERS; i++) {
+            for (int i = 0; i < many && within(length, 0, LETTERS - 1); i++) {
                 codes[length] = (byte) letterIn(w, i);
                 length++;
             }
